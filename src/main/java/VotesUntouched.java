@@ -16,6 +16,8 @@ public final class VotesUntouched {
     private static final int MOST_MATTERS = 6;
     private static final int MOST_BUNDLES = 64;
     private static final int MOST_FEE = 99;
+    // What element() answers where it is refused: the least long, by its number.
+    private static final long NO_ELEMENT = -9223372036854775808L;
 
     private final Council council;
     private final Changes changes;
@@ -24,6 +26,7 @@ public final class VotesUntouched {
     private final Ballot ballot;
     private final Finder finder;
     private final Shelves shelves;
+    private final Years years;
     private final Deeds deeds;
     private final Voters voters;
 
@@ -35,6 +38,7 @@ public final class VotesUntouched {
         ballot = new Ballot(council, text);
         finder = new Finder(council, ballot);
         shelves = new Shelves();
+        years = new Years(council, ballot, shelves);
         deeds = new Deeds();
         voters = new Voters();
     }
@@ -155,7 +159,7 @@ public final class VotesUntouched {
         if (!council.isPerson(person) || !isPut(bundle, gifts)) {
             return BAD;
         }
-        return ballot.whoMay(bundle, gifts) >>> person & 1;
+        return ballot.whoMay(bundle, bundle, gifts) >>> person & 1;
     }
 
     public int vote(int bundle, int gifts, int what) {
@@ -164,11 +168,11 @@ public final class VotesUntouched {
         }
         switch (what) {
             case 0:
-                return ballot.whoMay(bundle, gifts);
+                return ballot.whoMay(bundle, bundle, gifts);
             case 1:
-                return ballot.whoMay(bundle, gifts) & ballot.fans(bundle);
+                return ballot.whoMay(bundle, bundle, gifts) & ballot.fans(bundle);
             case 2:
-                return ballot.whoMay(bundle, gifts) & ballot.foes(bundle);
+                return ballot.whoMay(bundle, bundle, gifts) & ballot.foes(bundle);
             case 3:
                 return ballot.isCarried(bundle, gifts) ? 1 : 0;
             default:
@@ -275,26 +279,7 @@ public final class VotesUntouched {
         if (refused != 0) {
             return refused;
         }
-        for (int i = 0; i < shelves.sizeOf(shelf); i += 2) {
-            if (!isTwoAsItMust(shelf, i)) {
-                return i / 2;
-            }
-        }
-        return NOT;
-    }
-
-    private boolean isTwoAsItMust(int shelf, int place) {
-        if (!isWholeTwo(shelf, place)) {
-            return false;
-        }
-        int bundle = (int) shelves.valueAt(shelf, place);
-        int silent = (int) shelves.valueAt(shelf, place + 1);
-        return silent == (council.everybody() & ~ballot.whoMay(bundle, 0));
-    }
-
-    private boolean isWholeTwo(int shelf, int place) {
-        return shelves.hasPlace(shelf, place + 1)
-            && council.isBundle((int) shelves.valueAt(shelf, place));
+        return years.firstWrong(shelf);
     }
 
     public int must(int shelf, int pm) {
@@ -305,37 +290,7 @@ public final class VotesUntouched {
         if (refused != 0) {
             return refused;
         }
-        for (int i = 0; i < shelves.sizeOf(shelf); i += 2) {
-            if (isWholeTwo(shelf, i) && isShownBy(shelf, i, pm / 10, 1 << pm % 10)) {
-                return 1;
-            }
-        }
-        return 0;
-    }
-
-    private boolean isShownBy(int shelf, int place, int person, int matterBit) {
-        int bundle = (int) shelves.valueAt(shelf, place);
-        if ((bundle & matterBit) == 0 || !wasSilent(shelf, place, person)) {
-            return false;
-        }
-        int others = bundle & ~matterBit;
-        return others == 0 || votedOnAll(shelf, person, others, matterBit);
-    }
-
-    private boolean wasSilent(int shelf, int place, int person) {
-        return (shelves.valueAt(shelf, place + 1) >> person & 1) != 0;
-    }
-
-    private boolean votedOnAll(int shelf, int person, int others, int matterBit) {
-        for (int i = 0; i < shelves.sizeOf(shelf); i += 2) {
-            if (isWholeTwo(shelf, i) && !wasSilent(shelf, i, person)) {
-                int bundle = (int) shelves.valueAt(shelf, i);
-                if ((bundle & matterBit) == 0 && (bundle & others) == others) {
-                    return true;
-                }
-            }
-        }
-        return false;
+        return years.isShown(shelf, pm / 10, pm % 10) ? 1 : 0;
     }
 
     public int decide(int bundle, int gifts) {
@@ -389,7 +344,7 @@ public final class VotesUntouched {
     }
 
     public int keep(int shelf, int body) {
-        if (!shelves.isShelf(shelf) || body != -1 && !voters.isVoter(body)) {
+        if (!shelves.isShelf(shelf) || (body != -1 && !voters.isVoter(body))) {
             return BAD;
         }
         shelves.holdVoter(shelf, body);
@@ -417,7 +372,7 @@ public final class VotesUntouched {
     }
 
     public long element(int shelf, int i) {
-        return shelves.refusedAt(shelf, i) != 0 ? Long.MIN_VALUE : shelves.valueAt(shelf, i);
+        return shelves.refusedAt(shelf, i) != 0 ? NO_ELEMENT : shelves.valueAt(shelf, i);
     }
 
     public int shift(int shelf, int i, int other, int j, int n) {
@@ -487,7 +442,7 @@ public final class VotesUntouched {
         private final int[] fees = new int[MOST_PEOPLE];
         private final int[] steps = new int[TWOS];
         // TOUCH and LIKED by pm, RUMOUR by matter, in one row: a change is then one place of it.
-        private final int[] told = new int[2 * TWOS + MOST_MATTERS];
+        private final int[] told = new int[RUMOUR * TWOS + MOST_MATTERS];
         private int people;
         private int pairs;
         private int matters;
@@ -559,7 +514,7 @@ public final class VotesUntouched {
             if (matters >= MOST_MATTERS) {
                 return FULL;
             }
-            told[2 * TWOS + matters] = ALWAYS;
+            tell(RUMOUR * TWOS + matters, ALWAYS);
             matters++;
             return matters - 1;
         }
@@ -570,7 +525,7 @@ public final class VotesUntouched {
 
         int feesOf(int gifts) {
             int sum = 0;
-            for (int p = 0; p < people; p++) {
+            for (int p = 0; p < MOST_PEOPLE; p++) {
                 if ((gifts >>> p & 1) != 0) {
                     sum += fees[p];
                 }
@@ -586,7 +541,7 @@ public final class VotesUntouched {
         /** The place of a told number; -1: there is none such. */
         int slotOf(int pm, int what) {
             if (what == RUMOUR) {
-                return isMatter(pm) ? 2 * TWOS + pm : -1;
+                return isMatter(pm) ? RUMOUR * TWOS + pm : -1;
             }
             boolean known = pm >= 0 && isPerson(pm / 10) && isMatter(pm % 10);
             return known && (what == TOUCH || what == LIKED) ? what * TWOS + pm : -1;
@@ -622,14 +577,14 @@ public final class VotesUntouched {
             int sum = 0;
             for (int m = 0; m < matters; m++) {
                 if ((matterBits >>> m & 1) != 0) {
-                    sum += toldAt(slotOf(10 * person + m, what));
+                    sum += toldAt(what * TWOS + 10 * person + m);
                 }
             }
             return sum;
         }
 
         int rumourOf(int matter) {
-            return toldAt(slotOf(matter, RUMOUR));
+            return toldAt(RUMOUR * TWOS + matter);
         }
     }
 
@@ -674,7 +629,7 @@ public final class VotesUntouched {
         }
 
         boolean takeBack() {
-            if (done < 1) {
+            if (done < 1 || done > MOST_KEPT) {
                 return false;
             }
             done--;
@@ -683,7 +638,7 @@ public final class VotesUntouched {
         }
 
         boolean makeAgain() {
-            if (done >= kept) {
+            if (done >= kept || done >= MOST_KEPT) {
                 return false;
             }
             council.tell(slots[done], after[done]);
@@ -741,7 +696,7 @@ public final class VotesUntouched {
         /** What the first line that counts is worth; 0: none counts. */
         int worth(int[] names) {
             int top = 0;
-            for (int i = 0; i < length; i++) {
+            for (int i = 0; i < length && i < MOST_STEPS; i++) {
                 int step = steps[i];
                 if (step == NUMBER || step == NAME) {
                     if (top >= MOST_STEPS) {
@@ -754,7 +709,7 @@ public final class VotesUntouched {
                 } else if (step == LINE) {
                     return stack[top - 1];
                 } else if (step == NO || step == NEGATE) {
-                    stack[top - 1] = step == NO ? bit(stack[top - 1] == 0) : -stack[top - 1];
+                    stack[top - 1] = step == NEGATE ? -stack[top - 1] : stack[top - 1] == 0 ? 1 : 0;
                 } else if (step == GUARDED_LINE) {
                     top -= 2;
                     if (stack[top] != 0) {
@@ -779,15 +734,15 @@ public final class VotesUntouched {
         private static int joined(int step, int a, int b) {
             switch (step) {
                 case '|':
-                    return bit(a != 0 || b != 0);
+                    return a != 0 || b != 0 ? 1 : 0;
                 case '&':
-                    return bit(a != 0 && b != 0);
+                    return a != 0 && b != 0 ? 1 : 0;
                 case '<':
-                    return bit(a < b);
+                    return a < b ? 1 : 0;
                 case '=':
-                    return bit(a == b);
+                    return a == b ? 1 : 0;
                 case '>':
-                    return bit(a > b);
+                    return a > b ? 1 : 0;
                 case '+':
                     return a + b;
                 case '-':
@@ -801,10 +756,6 @@ public final class VotesUntouched {
                 default:
                     return 0;
             }
-        }
-
-        private static int bit(boolean holds) {
-            return holds ? 1 : 0;
         }
     }
 
@@ -835,22 +786,14 @@ public final class VotesUntouched {
         int read() {
             place = 0;
             draft.empty();
-            int fault = readText() ? -1 : place;
+            boolean whole = readLine();
+            for (int i = 0; i < MOST_BYTES && whole && next() == ';'; i++) {
+                place++;
+                whole = readLine();
+            }
+            int fault = whole && next() == END ? -1 : place;
             length = 0;
             return fault;
-        }
-
-        private boolean readText() {
-            for (int lines = 0; lines <= MOST_BYTES; lines++) {
-                if (!readLine()) {
-                    return false;
-                }
-                if (next() != ';') {
-                    return next() == END;
-                }
-                place++;
-            }
-            return false;
         }
 
         private boolean readLine() {
@@ -870,10 +813,10 @@ public final class VotesUntouched {
         }
 
         private int next() {
-            return place < length ? tape[place] : END;
+            return place >= 0 && place < length && place < MOST_BYTES ? tape[place] : END;
         }
 
-        /** What signs of a level join: E, A, B, S, P are levels 0 to 4; an O is what stands below. */
+        /** Reads what the signs of a level join: levels 0 to 4 are E, A, B, S, P, and below stands O. */
         private boolean readChain(int level, int open) {
             if (level >= LEVELS) {
                 return readOperand(open);
@@ -1002,12 +945,8 @@ public final class VotesUntouched {
             this.text = text;
         }
 
-        int whoMay(int bundle, int gifts) {
-            return whoMayIf(bundle, bundle, gifts);
-        }
-
-        /** Who may vote on a bundle if only some of its matters touch whom they touch. */
-        int whoMayIf(int bundle, int touching, int gifts) {
+        /** Who may vote on a bundle, if of its matters only the touching ones touch anybody. */
+        int whoMay(int bundle, int touching, int gifts) {
             weigh(touching, gifts);
             int bits = 0;
             for (int p = 0; p < council.people; p++) {
@@ -1063,23 +1002,23 @@ public final class VotesUntouched {
         }
 
         int fans(int bundle) {
-            int bits = 0;
-            for (int p = 0; p < council.people; p++) {
-                bits |= council.sumOf(p, bundle, Council.LIKED) > 0 ? 1 << p : 0;
-            }
-            return bits;
+            return whoLeans(bundle, 1);
         }
 
         int foes(int bundle) {
+            return whoLeans(bundle, -1);
+        }
+
+        private int whoLeans(int bundle, int way) {
             int bits = 0;
             for (int p = 0; p < council.people; p++) {
-                bits |= council.sumOf(p, bundle, Council.LIKED) < 0 ? 1 << p : 0;
+                bits |= way * council.sumOf(p, bundle, Council.LIKED) > 0 ? 1 << p : 0;
             }
             return bits;
         }
 
         boolean isCarried(int bundle, int gifts) {
-            return isCarriedBy(whoMay(bundle, gifts), fans(bundle), foes(bundle));
+            return isCarriedBy(whoMay(bundle, bundle, gifts), fans(bundle), foes(bundle));
         }
 
         boolean isCarriedBy(int voters, int fans, int foes) {
@@ -1112,7 +1051,8 @@ public final class VotesUntouched {
 
         int smallestCarriedWith(int matter) {
             int best = NOT;
-            for (int bundle = 1; bundle <= council.everything(); bundle++) {
+            int all = council.everything();
+            for (int bundle = 1; bundle <= all; bundle++) {
                 if ((bundle >>> matter & 1) != 0 && isFewer(bundle, best) && ballot.isCarried(bundle, 0)) {
                     best = bundle;
                 }
@@ -1126,7 +1066,8 @@ public final class VotesUntouched {
 
         int cheapestGifts(int bundle) {
             int best = NOT;
-            for (int gifts = 0; gifts <= council.everybody(); gifts++) {
+            int all = council.everybody();
+            for (int gifts = 0; gifts <= all; gifts++) {
                 if (isCheaper(gifts, best) && ballot.isCarried(bundle, gifts)) {
                     best = gifts;
                 }
@@ -1146,7 +1087,7 @@ public final class VotesUntouched {
             int best = NOT;
             for (int out = 0; out < bundle; out++) {
                 if ((out & ~bundle) == 0 && isFewer(out, best)
-                    && (ballot.whoMay(bundle & ~out, 0) >>> person & 1) != 0) {
+                    && (ballot.whoMay(bundle & ~out, bundle & ~out, 0) >>> person & 1) != 0) {
                     best = out;
                 }
             }
@@ -1207,8 +1148,9 @@ public final class VotesUntouched {
             for (int p = 0; p < MOST_PEOPLE; p++) {
                 says[p] = 0;
             }
-            for (int bundle = 1; bundle <= council.everything(); bundle++) {
-                int voters = ballot.whoMay(bundle, 0);
+            int all = council.everything();
+            for (int bundle = 1; bundle <= all; bundle++) {
+                int voters = ballot.whoMay(bundle, bundle, 0);
                 for (int p = 0; p < MOST_PEOPLE; p++) {
                     says[p] += voters >>> p & 1;
                 }
@@ -1217,8 +1159,9 @@ public final class VotesUntouched {
 
         int powerOf(int person) {
             int power = 0;
-            for (int bundle = 1; bundle <= council.everything(); bundle++) {
-                int voters = ballot.whoMay(bundle, 0);
+            int all = council.everything();
+            for (int bundle = 1; bundle <= all; bundle++) {
+                int voters = ballot.whoMay(bundle, bundle, 0);
                 int others = voters & ~(1 << person);
                 int fans = ballot.fans(bundle);
                 int foes = ballot.foes(bundle);
@@ -1249,7 +1192,7 @@ public final class VotesUntouched {
             for (int touching = 0; touching <= bundle; touching++) {
                 if ((touching & ~bundle) == 0) {
                     int weight = weightOf(bundle, touching);
-                    if (weight > 0 && ballot.isCarriedBy(ballot.whoMayIf(bundle, touching, 0), fans, foes)) {
+                    if (weight > 0 && ballot.isCarriedBy(ballot.whoMay(bundle, touching, 0), fans, foes)) {
                         sum += weight;
                     }
                 }
@@ -1290,12 +1233,13 @@ public final class VotesUntouched {
         }
 
         int fewestLies(int bundle) {
-            int voters = ballot.whoMay(bundle, 0);
+            int voters = ballot.whoMay(bundle, bundle, 0);
             int fans = ballot.fans(bundle);
             int foes = ballot.foes(bundle);
             boolean carried = ballot.isCarriedBy(voters, fans, foes);
             int best = NOT;
-            for (int lied = 1; lied <= council.everybody(); lied++) {
+            int all = council.everybody();
+            for (int lied = 1; lied <= all; lied++) {
                 if (isFewer(lied, best) && ballot.isCarriedBy(voters ^ lied, fans, foes) != carried) {
                     best = lied;
                 }
@@ -1337,6 +1281,76 @@ public final class VotesUntouched {
                 rest &= rest - 1;
             }
             return rest & -rest;
+        }
+    }
+
+    /** Years as rows tell them: by twos a bundle, and who was silent. */
+    private static final class Years {
+        private final Council council;
+        private final Ballot ballot;
+        private final Shelves shelves;
+
+        Years(Council council, Ballot ballot, Shelves shelves) {
+            this.council = council;
+            this.ballot = ballot;
+            this.shelves = shelves;
+        }
+
+        int firstWrong(int shelf) {
+            int size = shelves.sizeOf(shelf);
+            for (int i = 0; i < size; i += 2) {
+                if (!isWhole(shelf, i) || silentAt(shelf, i) != mustBeSilent(bundleAt(shelf, i))) {
+                    return i / 2;
+                }
+            }
+            return NOT;
+        }
+
+        private int mustBeSilent(int bundle) {
+            return council.everybody() & ~ballot.whoMay(bundle, bundle, 0);
+        }
+
+        private boolean isWhole(int shelf, int place) {
+            return shelves.hasPlace(shelf, place + 1) && council.isBundle(bundleAt(shelf, place));
+        }
+
+        private int bundleAt(int shelf, int place) {
+            return (int) shelves.valueAt(shelf, place);
+        }
+
+        private int silentAt(int shelf, int place) {
+            return (int) shelves.valueAt(shelf, place + 1);
+        }
+
+        /** Whether the row shows that a matter touches a person. */
+        boolean isShown(int shelf, int person, int matter) {
+            int size = shelves.sizeOf(shelf);
+            for (int i = 0; i < size; i += 2) {
+                if (isWhole(shelf, i) && isSilentFor(shelf, i, person, matter)) {
+                    int others = bundleAt(shelf, i) & ~(1 << matter);
+                    if (others == 0 || hasVotedOn(others, shelf, person, matter)) {
+                        return true;
+                    }
+                }
+            }
+            return false;
+        }
+
+        private boolean isSilentFor(int shelf, int place, int person, int matter) {
+            return (bundleAt(shelf, place) >>> matter & silentAt(shelf, place) >>> person & 1) != 0;
+        }
+
+        /** Whether a person voted on a bundle without the matter that has all the others. */
+        private boolean hasVotedOn(int others, int shelf, int person, int matter) {
+            int size = shelves.sizeOf(shelf);
+            for (int i = 0; i < size; i += 2) {
+                int bundle = bundleAt(shelf, i);
+                boolean fits = (bundle & others) == others && (bundle >>> matter & 1) == 0;
+                if (fits && isWhole(shelf, i) && (silentAt(shelf, i) >>> person & 1) == 0) {
+                    return true;
+                }
+            }
+            return false;
         }
     }
 
@@ -1417,8 +1431,6 @@ public final class VotesUntouched {
         private final int[] traced = new int[MOST_TRACED];
         private int size;
         private int ran;
-        // Whose act runs: all bodies of one act run on the same voter.
-        private int number;
 
         static boolean isKind(int kind) {
             return kind >= 0 && kind < KINDS;
@@ -1430,7 +1442,7 @@ public final class VotesUntouched {
                 if (at == above) {
                     return true;
                 }
-                at = ABOVE[at];
+                at = aboveOf(at);
             }
             return false;
         }
@@ -1469,21 +1481,34 @@ public final class VotesUntouched {
             if (!isVoter(voter) || act < 0 || act >= ACTS) {
                 return 0;
             }
-            number = voter;
-            return actFrom(kinds[voter], act, x, 0);
+            return own(voter, act, x, 0);
         }
 
-        /** Runs the body of a kind, or of the next kind above that has one. */
-        private int actFrom(int kind, int act, int x, int depth) {
+        /** Runs the body of a voter's own kind, or of the next kind above that has one. */
+        private int own(int voter, int act, int x, int depth) {
+            return runFrom(kindOf(voter), voter, act, x, depth);
+        }
+
+        private int runFrom(int kind, int voter, int act, int x, int depth) {
             int at = kind;
-            for (int i = 0; i < KINDS && isKind(at) && BODIES[ACTS * at + act] == 0; i++) {
-                at = ABOVE[at];
+            for (int i = 0; i < KINDS && bodyAt(at, act) == 0; i++) {
+                at = aboveOf(at);
             }
-            if (!isKind(at) || depth > MOST_DEEP) {
+            int bodyNumber = bodyAt(at, act);
+            if (bodyNumber <= 0 || depth > MOST_DEEP) {
                 return 0;
             }
-            begin(BODIES[ACTS * at + act]);
-            return bodyOf(at, act, x, depth + 1);
+            begin(bodyNumber);
+            return run(bodyNumber, aboveOf(at), voter, x, depth + 1);
+        }
+
+        private static int bodyAt(int kind, int act) {
+            int place = ACTS * kind + act;
+            return isKind(kind) && place >= 0 && place < BODIES.length ? BODIES[place] : -1;
+        }
+
+        private static int aboveOf(int kind) {
+            return kind >= 0 && kind < ABOVE.length ? ABOVE[kind] : -1;
         }
 
         private void begin(int bodyNumber) {
@@ -1493,41 +1518,38 @@ public final class VotesUntouched {
             ran++;
         }
 
-        private int bodyOf(int kind, int act, int x, int depth) {
-            switch (BODIES[ACTS * kind + act]) {
+        /** Runs a body; above: the kind above the one that the body is of. */
+        private int run(int bodyNumber, int above, int voter, int x, int depth) {
+            switch (bodyNumber) {
                 case 1:
-                    return x + number;
-                case 10:
-                    return own(VOTES, x, depth) * 2;
-                case 11:
-                    return x ^ number;
+                    return x + voter;
                 case 2:
-                    return own(OWNS, x, depth) - own(GIVES, 1, depth);
+                    return own(voter, OWNS, x, depth) - own(voter, GIVES, 1, depth);
+                case 10:
+                    return own(voter, VOTES, x, depth) * 2;
+                case 11:
+                    return x ^ voter;
                 case 20:
-                    return actFrom(ABOVE[kind], VOTES, x, depth) + 3;
+                    return runFrom(above, voter, VOTES, x, depth) + 3;
                 case 30:
-                    return -actFrom(ABOVE[kind], OWNS, x, depth);
+                    return -runFrom(above, voter, OWNS, x, depth);
                 case 40:
-                    return actFrom(ABOVE[kind], GIVES, x, depth) * 3;
+                    return runFrom(above, voter, GIVES, x, depth) * 3;
                 case 41:
-                    return actFrom(ABOVE[kind], OWNS, x + 1, depth);
+                    return runFrom(above, voter, OWNS, x + 1, depth);
                 case 50:
-                    return actFrom(ABOVE[kind], GIVES, x, depth) - own(VOTES, 2, depth);
+                    return runFrom(above, voter, GIVES, x, depth) - own(voter, VOTES, 2, depth);
                 case 60:
-                    return actFrom(ABOVE[kind], TELLS, x, depth) ^ 5;
+                    return runFrom(above, voter, TELLS, x, depth) ^ 5;
                 case 70:
-                    return actFrom(ABOVE[kind], VOTES, x, depth) * 2;
+                    return runFrom(above, voter, VOTES, x, depth) * 2;
                 case 80:
-                    return actFrom(ABOVE[kind], OWNS, x, depth) + own(GIVES, 2, depth);
+                    return runFrom(above, voter, OWNS, x, depth) + own(voter, GIVES, 2, depth);
                 case 81:
-                    return actFrom(ABOVE[kind], TELLS, x, depth) - 1;
+                    return runFrom(above, voter, TELLS, x, depth) - 1;
                 default:
                     return 0;
             }
-        }
-
-        private int own(int act, int x, int depth) {
-            return actFrom(kindOf(number), act, x, depth);
         }
     }
 
@@ -1583,7 +1605,7 @@ public final class VotesUntouched {
         }
 
         void holdRow(int shelf, int sort, int size) {
-            if (isShelf(shelf) && size <= MOST_ELEMENTS) {
+            if (isShelf(shelf) && size >= 0 && size <= MOST_ELEMENTS) {
                 holds[shelf] = sort;
                 sizes[shelf] = size;
                 for (int i = 0; i < size; i++) {
@@ -1618,7 +1640,7 @@ public final class VotesUntouched {
         }
 
         boolean hasPlace(int shelf, int i) {
-            return i >= 0 && i < sizeOf(shelf);
+            return shelf >= 0 && shelf < MOST_SHELVES && i >= 0 && i < sizes[shelf];
         }
 
         boolean hasPlaces(int shelf, int i, int n) {
