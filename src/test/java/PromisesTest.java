@@ -296,7 +296,7 @@ public final class PromisesTest {
         String[] whole = {
             "t", "0", "9999", "0000", "t?1", "t;k", "t?1;0", "k>1&t=0", "!t", "-t", "!-!-!-t", "((((((t))))))", "!!!!!!t+!!!!!!t",
             "t--t", "t-!t", "t+k*l/p%n-g", "t|k|l&p&n", "t<k&k<t|t=t", "(t<k)<l", "(t|k)*2", "!(t)", "-(-(1))", "1*-1",
-            "(t);(k)?(l);p", "!(!(!(t)))",
+            "(t);(k)?(l);p", "!(!(!(t)))", "t|k?t|k", "((((((t))))))?((((((t))))))", "t;!-!-!-t",
         };
         for (String text : whole) {
             VotesUntouched x = new VotesUntouched();
@@ -353,12 +353,12 @@ public final class PromisesTest {
             {"-7/2=-3", 15}, {"-7%3=-1", 15}, {"7%-3=1", 15}, {"7/0", 0}, {"7%0", 0}, {"7/t=1", 2}, {"7/0=0", 15},
             {"5%t=0", 15}, {"2*3%4=2", 15}, {"!5", 0}, {"!0", 15}, {"!!5=1", 15}, {"!t=0", 2}, {"!(t=0)", 2}, {"-p<0", 14},
             {"5&6=1", 0}, {"(5&6)=1", 15}, {"(5|0)=1", 15}, {"(0|0)=0", 15}, {"(5&0)=0", 15}, {"1|0&0", 15}, {"(1|0)&0", 0},
-            {"1<2", 15}, {"2<1", 0}, {"2<2", 0}, {"2>1", 15}, {"2>2", 0}, {"1>2", 0}, {"(2>1)=1", 15}, {"(1<2)+(2<1)=1", 15},
+            {"1<2", 15}, {"2<1", 0}, {"2<2", 0}, {"(1=1)=1", 15}, {"(p=1)+1=2", 2}, {"2>1", 15}, {"2>2", 0}, {"1>2", 0}, {"(2>1)=1", 15}, {"(1<2)+(2<1)=1", 15},
             {"0<1&1<0|p=2", 4}, {"--5=5", 15}, {"3--2=5", 15}, {"3-!0=2", 15},
             {"9999*9999*9999=0-1", 0}, {"9999*9999*100*100>0", 0}, {"2048*2048*512<0", 15}, {"2048*2048*512*2=0", 15},
             {"-2048*2048*512/-1<0", 15}, {"-2048*2048*512%-1=0", 15},
             {"t?0;1", 13}, {"t?1;0", 2}, {"t?1", 2}, {"0?1", 0}, {"p=0?1;p=1?0;p=2?5", 5}, {"l>0?1;t?0;p", 13},
-            {"1?0;1", 0}, {"1;0", 15}, {"0;1", 0}, {"0?1;0?1;0?1", 0}, {"p-1?p-2;1", 11}, {"7?-1", 15},
+            {"1?0;1", 0}, {"1;0", 15}, {"0;1", 0}, {"0?1;0?1;0?1", 0}, {"p-1?p-2;1", 11}, {"7?-1", 15}, {"1?0|p;0", 14}, {"1?p&1|0", 14}, {"p?((((((1))))))", 14}, 
         };
         for (Object[] t : texts) {
             due("law \"" + t[0] + "\"", law(x, (String) t[0]), 1);
@@ -462,6 +462,15 @@ public final class PromisesTest {
         due("of like ones the least", x.together(0), 5);
         tell(x, 0, 1, -7, -6);
         due("with two that it has", x.together(0), 13);
+        VotesUntouched y = council(2, 0, 0, 0);
+        tell(y, 0, 1, 1, 0, 0);
+        due("the first by itself", y.together(0), 1);
+        tell(y, 0, 1, -1, 0, 0);
+        tell(y, 1, 1, 2, -1, -1);
+        due("with another: as many against", y.together(0), NOT);
+        tell(y, 1, 1, 2, -1, 0);
+        tell(y, 0, 1, -1, 2, 0);
+        due("all", y.together(0), 3);
         due("no such", x.together(4), BAD);
         due("no such", x.together(-1), BAD);
     }
@@ -480,6 +489,10 @@ public final class PromisesTest {
         due("without FEES", x.silenced(1, 1), 0);
         due("nobody for it", x.silenced(2, 0), NOT);
         due("nobody for it", x.silenced(2, 1), NOT);
+        law(x, "g");
+        x.rule(1, 5);
+        due("all gifts", x.silenced(1, 0), 31);
+        due("all FEES", x.silenced(1, 1), 41);
         VotesUntouched y = council(1, 8, 3, 5, 0, 8);
         y.cousins(1);
         y.cousins(12);
@@ -601,6 +614,14 @@ public final class PromisesTest {
         due("all", x.parted(-1), 5);
         due("the least of the first", x.parted(0), 11);
         due("the other", x.parted(4), 20);
+        VotesUntouched z = council(4, 0);
+        z.mend(0, 1, -3);
+        z.mend(1, 1, 2);
+        z.mend(2, 1, 2);
+        z.mend(3, 1, 5);
+        due("all", z.parted(-1), 4);
+        due("the least of matter 0, not the least of all", z.parted(0), 7);
+        due("the other", z.parted(3), 8);
         due("no such", x.parted(5), BAD);
         due("no such", x.parted(-2), BAD);
         due("nothing to part", council(0, 0).parted(-1), 0);
@@ -706,6 +727,9 @@ public final class PromisesTest {
         law(y, "t=2&n=6&l=6");
         due("n and l are of all, t of those that touch", y.chance(63, 0), 73205);
         due("n and l are of all, t of those that touch", y.chance(63, 1), 995328);
+        law(y, "t=6");
+        due("one of all", y.chance(63, 0), 1);
+        due("one of all", y.chance(63, 1), 2985984);
         due("no bundle", x.chance(0, 0), BAD);
         due("no bundle", x.chance(8, 0), BAD);
         due("no part", x.chance(1, 2), BAD);
@@ -734,6 +758,9 @@ public final class PromisesTest {
         due("no bundle", x.lies(0), BAD);
         due("no bundle", x.lies(4), BAD);
         due("nobody", council(1).lies(1), NOT);
+        VotesUntouched one = council(1, 0);
+        one.mend(0, 1, 1);
+        due("all lie", one.lies(1), 1);
         VotesUntouched y = council(1, 0, 0, 0);
         tell(y, 0, 0, 1, 1, 1);
         tell(y, 0, 1, -1, 1, 1);
@@ -908,6 +935,8 @@ public final class PromisesTest {
         tell(x, 0, 1, 1, 0, 0);
         tell(x, 1, 1, 1, -1, 0);
         tell(x, 2, 1, -1, 0, 0);
+        due("not CARRIED", x.decide(2, 0), 0);
+        due("nothing DECIDED", x.led(3), 0);
         due("CARRIED", x.decide(1, 0), 1);
         due("again", x.decide(1, 0), STATE);
         due("with another", x.decide(3, 0), STATE);
@@ -1034,6 +1063,19 @@ public final class PromisesTest {
             due("TOUCH", y.of(0, 0), i);
         }
         due("40 at most are kept", y.undo(), STATE);
+        VotesUntouched z = council(2, 0, 0);
+        for (int i = 0; i < 41; i++) {
+            z.mend(i == 40 ? 11 : i % 2 == 0 ? 0 : 10, i % 3 == 0 ? 1 : 0, 1 + i % 9);
+        }
+        int changes = z.count(4);
+        for (int i = 0; i < changes; i++) {
+            z.undo();
+        }
+        due("the oldest stays", z.of(0, 1), 1);
+        due("all others are undone", z.of(0, 0), 0);
+        due("all others are undone", z.of(10, 0), 0);
+        due("all others are undone", z.of(10, 1), 0);
+        due("all others are undone", z.of(11, 0), 0);
         promise = 31;
         for (int i = 4; i <= 43; i++) {
             due("redo()", y.redo(), 43 - i);
@@ -1163,8 +1205,12 @@ public final class PromisesTest {
         due("no sort, below 0", x.row(0, 5, -1), BAD);
         due("no shelf, below 0", x.row(6, 0, -1), BAD);
         due("what is refused changes nothing", x.put(0, 59, 1), 1);
+        x.put(0, 0, 1);
+        x.put(1, 0, 7);
         x.row(0, 0, 60);
         due("anew", x.element(0, 59), 0);
+        due("anew", x.element(0, 0), 0);
+        due("the next shelf is as it was", x.element(1, 0), 7);
 
         promise = 37;
         x.body(0);
@@ -1218,6 +1264,7 @@ public final class PromisesTest {
         due("backward within", x.shift(0, 2, 0, 0, 3), 3);
         dueElements("backward within", x, 0, "2 3 4 3 4");
         due("none", x.shift(0, 5, 1, 3, 0), 0);
+        due("a whole row", x.shift(1, 0, 1, 0, 3), 3);
         int[][] places = {
             {-1, 0, 1}, {0, -1, 1}, {5, 0, 1}, {0, 3, 1}, {0, 0, 4}, {3, 0, 3}, {0, 0, -1}, {6, 0, 0}, {0, 4, 0},
             {MOST, 0, 1}, {0, MOST, 1}, {0, 0, MOST}, {0, 0, LEAST}, {MOST, MOST, MOST}, {1, 1, LEAST},
