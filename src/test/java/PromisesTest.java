@@ -1067,6 +1067,12 @@ public final class PromisesTest {
         for (int i = 0; i < 41; i++) {
             z.mend(i == 40 ? 11 : i % 2 == 0 ? 0 : 10, i % 3 == 0 ? 1 : 0, 1 + i % 9);
         }
+        due("the latest", z.of(11, 0), 5);
+        z.undo();
+        due("the latest is undone", z.of(11, 0), 0);
+        due("the one ahead of it", z.of(10, 1), 4);
+        z.undo();
+        due("the one ahead of it is undone", z.of(10, 1), 7);
         int changes = z.count(4);
         for (int i = 0; i < changes; i++) {
             z.undo();
