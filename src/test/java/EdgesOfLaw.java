@@ -175,6 +175,10 @@ final class EdgesOfLaw {
         worth("1|0&0", true);
         worth("0&0|1", true);
         worth("(1|0)&0", false);
+        worth("1?0|1;0", true);
+        worth("0|1?1;0", true);
+        worth("1|1-1", true);
+        worth("1&1-1", false);
 
         Edges.sentence(10, "S = P { + P, - P }. P = O { * O, / O, % O }.");
         read("t+k-l+p", 1);
@@ -213,6 +217,10 @@ final class EdgesOfLaw {
         }
         fault("t<=k", 2);
         worth("1+1=2", true);
+        worth("2=1+1", true);
+        worth("1=1+1", false);
+        worth("1=1-1", false);
+        worth("3<2*2", true);
         worth("1<2&2<3", true);
     }
 
@@ -256,6 +264,9 @@ final class EdgesOfLaw {
         read("((((((t)*t)*t)*t)*t)*t)", 1);
         read("t?((((((t))))));!!!!!!t", 1);
         read("(((((!t+-t)))))", 1);
+        fault("t?(((((((t)))))))", 8);
+        fault("t?1;!!!!!!!t", 10);
+        fault("t?1;k?-------t", 12);
         fault("((((((!t))))))", 6);
         fault("((((((t-!t))))))", 8);
         fault("((((((t--t))))))", 8);
@@ -282,6 +293,11 @@ final class EdgesOfLaw {
         due("120 have room again", x.count(3), 0);
         Edges.feed(x, Edges.times(60, "1;"));
         due("120 have room again", x.count(3), 120);
+        VotesUntouched y = Edges.council(1, 1);
+        due("a long text", Edges.law(y, "0?1;0?1;1"), 1);
+        due("by its last line", y.may(0, 1, 0), 1);
+        due("a short text", Edges.law(y, "0?1"), 1);
+        due("nothing of the long one is left", y.may(0, 1, 0), 0);
     }
 
     private static void faultChangesNothing() {
@@ -411,6 +427,11 @@ final class EdgesOfLaw {
         due("g with all", x.vote(1, 1023, 0), 1023);
         Edges.law(x, "g=0");
         due("no g", x.vote(1, 513, 0), 1022 - 512);
+        x.mend(0, 0, 1);
+        due("g of one that is touched without a gift", x.vote(1, 0, 0), 1023);
+        Edges.law(x, "g=1");
+        due("g of one that is touched and has a gift", x.vote(1, 1, 0), 1);
+        x.mend(0, 0, 0);
         VotesUntouched y = Edges.council(2, 6);
         for (int m = 0; m < 6; m++) {
             Edges.tell(y, m, 0, 99, 0);

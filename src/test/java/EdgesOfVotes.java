@@ -200,6 +200,8 @@ final class EdgesOfVotes {
         due("two do not outweigh it by 0", x.together(0), 49);
         x.mend(1, 1, 1);
         due("of three the least bits", x.together(0), 19);
+        x.mend(0, 1, 1);
+        due("the first alone", x.together(0), 1);
         due("it alone", x.together(1), 2);
         VotesUntouched all = Edges.council(1, 6);
         for (int m = 0; m < 6; m++) {
@@ -264,6 +266,12 @@ final class EdgesOfVotes {
         fewest.cousins(31);
         Edges.tell(fewest, 0, 1, -1, -1, 1, 0);
         due("of like FEES the fewest", fewest.silenced(1, 0), 8);
+        VotesUntouched cheaper = withFees(3, 2, 0, 0);
+        Edges.tell(cheaper, 0, 1, -1, -1, 1, 1);
+        cheaper.rule(1, 3);
+        due("cheaper by one", cheaper.silenced(1, 0), 2);
+        cheaper.rule(1, 0);
+        due("cheaper by one", cheaper.silenced(1, 1), 2);
         VotesUntouched least = withFees(1, 1, 1, 1, 1);
         Edges.tell(least, 0, 1, 1, -1, -1, 1, -1);
         due("of as few the least bits", least.silenced(1, 0), 6);

@@ -153,6 +153,19 @@ final class EdgesOfYears {
         due("silent on both, voted on that MATTER itself", shown(0, 3, 1, 1, 0), 0);
         due("the last person, the last matter", shown(21, 3, 4, 1, 0), 1);
         due("the last person alone", shown(21, 2, 4), 1);
+        due("silent on both, voted on both: the last matter", shown(21, 3, 4, 3, 0), 0);
+        due("by twos from the first on", shown(0, 3, 1, 3, 2, 2, 1), 0);
+        int[][] rests = {{6, 1}, {14, 1}, {2, 0}, {4, 0}, {10, 0}, {7, 0}, {1, 0}, {15, 0}, {8, 0}};
+        for (int[] rest : rests) {
+            VotesUntouched x = Edges.council(1, 4);
+            Edges.row(x, 0, 1, 7, 1, rest[0], 0);
+            due("silent on three, voted on " + rest[0], x.must(0, 0), rest[1]);
+        }
+        VotesUntouched parts = Edges.council(1, 4);
+        Edges.row(parts, 0, 1, 7, 1, 2, 0, 4, 0);
+        due("all else, by two votes", parts.must(0, 0), 0);
+        Edges.row(parts, 0, 1, 7, 1, 15, 1, 6, 0);
+        due("all else, behind another", parts.must(0, 0), 1);
 
         Edges.sentence(25, "(THE LAW, cousins, whether the ROW is JUDGED so do not matter; twos that are no BUNDLE, or half, do not count)");
         due("silent on no BUNDLE: with one beyond", shown(0, 5, 1, 4, 0), 0);
@@ -450,6 +463,17 @@ final class EdgesOfYears {
             due("in their order", x.of(0, 0), 42 - i);
         }
         due("no more", x.redo(), STATE);
+        VotesUntouched each = Edges.council(7, 6);
+        for (int i = 0; i < 42; i++) {
+            each.mend(i / 6 * 10 + i % 6, i % 2, 1 + i % 9);
+        }
+        for (int i = 41; i >= 2; i--) {
+            due("each in its own place", each.of(i / 6 * 10 + i % 6, i % 2), 1 + i % 9);
+            due("undo()", each.undo(), i - 2);
+            due("each in its own place", each.of(i / 6 * 10 + i % 6, i % 2), 0);
+        }
+        due("the oldest stays", each.of(0, 0), 1);
+        due("the second oldest stays", each.of(1, 1), 2);
         VotesUntouched y = Edges.council(1, 1);
         for (int i = 1; i <= 40; i++) {
             y.mend(0, 0, i);
